@@ -61,6 +61,13 @@ public final class PencilTest {
         Due.is("on xx", desk.pencil(0, 1, 2006), 8);
         Due.is("line of xx", desk.pencil(0, 1, 3006), 1);
         Due.is("member 0", desk.pencil(0, 1, 1000), 4);
+        // yy - zx and 2 yy - zx touch at (1:0:0) and (0:0:1), POINTS of the first and the last number.
+        ConicDesk ends = desk("conic 0 0 1 0 0 -1 0;conic 1 0 2 0 0 -1 0;conic 2 1 0 0 0 0 0;", 3);
+        Due.is("touching at both ends", ends.pencil(0, 1, 2), 2);
+        Due.is("the first point", ends.pencil(0, 1, 100), 0);
+        Due.is("the last point", ends.pencil(0, 1, 101), 56);
+        Due.is("the second one is of kind 1", ends.pencil(0, 2, 2), NONE);
+        Due.is("the first one is of kind 1", ends.pencil(2, 0, 2), NONE);
         Due.is("one way", desk.pencil(0, 2, 2), desk.pencil(2, 0, 2));
     }
 

@@ -138,6 +138,12 @@ public final class TapeTest {
         Due.faulty("prim 3;", 1, 0);
         Due.faulty(" primes 3;", 1, 1);
         Due.faulty("Prime 3;", 1, 0);
+        Due.faulty("primea 3;", 1, 0);
+        Due.faulty("primez 3;", 1, 0);
+        Due.faulty("prime`3;", 1, 5);
+        Due.faulty("prime{3;", 1, 5);
+        Due.faulty("prime /;", 1, 6);
+        Due.faulty("prime :;", 1, 6);
         Due.faulty("primE 3;", 1, 0);
         Due.faulty("prime", 1, 5);
         Due.faulty("prime  \n", 1, 8);
