@@ -4,8 +4,15 @@ import java.nio.charset.StandardCharsets;
 final class Due {
     private static int wrong = 0;
     private static int asked = 0;
+    private static int sentences = 0;
 
     private Due() {
+    }
+
+    /** Prints the document's words that the answers behind this are due by. */
+    static void sentence(String where, String words) {
+        sentences++;
+        System.out.println("  " + where + ": " + words);
     }
 
     static void is(String call, long got, long want) {
@@ -71,7 +78,8 @@ final class Due {
     }
 
     static void end(String test) {
-        System.out.println(test + ": " + asked + " answers, " + wrong + " not as due");
+        String told = sentences == 0 ? "" : sentences + " sentences, ";
+        System.out.println(test + ": " + told + asked + " answers, " + wrong + " not as due");
         if (wrong != 0) {
             System.exit(1);
         }
