@@ -22,6 +22,7 @@ public final class ActsEdgesTest {
         twistEachHow();
         throughByItsFirst();
         throughModuloThePrime();
+        throughAnyFive();
         unmark();
         noSuchConic();
         noSuchNumber();
@@ -145,7 +146,9 @@ public final class ActsEdgesTest {
             for (int k = 0; k < 8; k++) {
                 desk.mark(k, false);
             }
+            desk.set(3, 5, -99);
             desk.prime(p);
+            Due.numbers("the conics stay", desk, 3, 1, 0, 0, 0, 0, -99);
             Due.is("count(2), p being " + p, desk.count(2), p == 7 ? 8 : 0);
             Due.is("marked(0)", desk.marked(0), p == 7 ? 0 : NONE);
             Due.is("count(3)", desk.count(3), p == 7 ? 2 : 6);
@@ -283,6 +286,37 @@ public final class ActsEdgesTest {
             }
             if (p > 3) {
                 Due.numbers("yy - zx", desk, 1, 0, 1, 0, 0, p - 1, 0);
+            }
+        }
+    }
+
+    private static void throughAnyFive() {
+        Due.sentence(T2, "FAMILY: all CONICS (numbers modulo p) through all MARKED ones");
+        for (int p : Edges.PRIMES) {
+            for (int step = 1; step < 30; step++) {
+                ConicDesk desk = Edges.desk("prime " + p + ";");
+                for (int k = 1; desk.count(3) > 1 && k < 40; k++) {
+                    int point = (Edges.points(p) - 1 - step * k * k % Edges.points(p));
+                    if (desk.freed(point) == desk.count(3) - 1) {
+                        desk.mark(point, false);
+                    }
+                }
+                if (desk.count(3) != 1) {
+                    continue;
+                }
+                Due.is("five are marked", desk.count(2), 5);
+                Due.is("through, p being " + p, desk.through(2), 0);
+                int lead = 0;
+                int[] numbers = new int[6];
+                for (int i = 5; i >= 0; i--) {
+                    numbers[i] = desk.conic(2, 10 + i);
+                    Due.holds("0 to p - 1", numbers[i] >= 0 && numbers[i] < p);
+                    lead = numbers[i] == 0 ? lead : numbers[i];
+                }
+                Due.is("the first is 1", lead, 1);
+                for (int k = 0; k < 5; k++) {
+                    Due.is("it has the marked ones", Edges.value(p, numbers, desk.marked(k)), 0);
+                }
             }
         }
     }

@@ -159,6 +159,7 @@ public final class PairEdgesTest {
                 Due.is("none of -1", desk.pencil(0, 5, what - 1), NONE);
                 Due.is("none of 999", desk.pencil(0, 5, what + 999), NONE);
             }
+            Due.is("member p, asked first", two(p, xx(-1, 0), xx(0, -1)).pencil(0, 5, 2000 + p), 2 * p + 1);
             ConicDesk ends = two(p, xx(-Edges.residue(p, false), 0), new int[] {0, 0, 1, 0, 0, 0});
             Due.is("member 0 is the other one", ends.pencil(0, 5, 1000), 1);
             Due.is("its points", ends.pencil(0, 5, 2000), p + 1);
@@ -260,12 +261,14 @@ public final class PairEdgesTest {
     private static void noPencilOfNoConic() {
         Due.sentence("Promise 27", "NONE: there is no PENCIL");
         ConicDesk desk = two(7, xx(-1, 0), xx(0, -1));
+        aPencil("the ends", desk, 0, 5);
+        aPencil("the ends", desk, 5, 0);
         for (int no : Edges.NOT_OF_SIX) {
             noPencil("no such first one", desk, no, 5);
             noPencil("no such other one", desk, 0, no);
         }
+        noPencil("neither", desk, -1, 6);
         noPencil("neither", new ConicDesk(), -1, 6);
-        aPencil("the ends", desk, 0, 5);
     }
 
     // ---- Promises 28 and 29

@@ -1,6 +1,7 @@
 import java.util.ArrayList;
 import java.util.List;
 import java.util.function.Supplier;
+import java.util.function.ToIntBiFunction;
 import java.util.function.ToIntFunction;
 
 /**
@@ -23,6 +24,7 @@ public final class StaysTest {
         callsForNothing();
         questions();
         faultyTexts();
+        whateverWasAskedBefore();
         Due.end("StaysTest");
     }
 
@@ -309,6 +311,55 @@ public final class StaysTest {
             other.end(0);
             Due.is("text of '" + text + "'", Due.text(one, text), NONE);
             alike("text of '" + text + "', row " + k, rows.get(k).told(one), rows.get(k).told(other));
+        }
+    }
+
+    private static final List<ToIntBiFunction<ConicDesk, Integer>> QUESTIONS = List.of(
+        (desk, p) -> desk.count(3), (desk, p) -> desk.count(6), (desk, p) -> desk.count(7), (desk, p) -> desk.conic(3, 0),
+        (desk, p) -> desk.conic(3, 1), (desk, p) -> desk.conic(4, 2), (desk, p) -> desk.conic(2, 6), (desk, p) -> desk.conic(2, 7),
+        (desk, p) -> desk.conic(4, 8), (desk, p) -> desk.conic(4, 9), (desk, p) -> desk.conic(1, 23), (desk, p) -> desk.place(p * p - 1, 1),
+        (desk, p) -> desk.number(1, -1, 2), (desk, p) -> desk.joined(1, p * p + 1), (desk, p) -> desk.lies(4, p * p),
+        (desk, p) -> desk.lies(4, 2 * p + 1), (desk, p) -> desk.on(2, p, false), (desk, p) -> desk.on(2, 1, true),
+        (desk, p) -> desk.polar(3, p * p - 1), (desk, p) -> desk.pole(4, p * p - 2), (desk, p) -> desk.meets(1, p + 1),
+        (desk, p) -> desk.meets(3, 1), (desk, p) -> desk.tangent(4, p * p, NONE), (desk, p) -> desk.tangent(4, p * p, 0),
+        (desk, p) -> desk.pencil(4, 3, 0), (desk, p) -> desk.pencil(4, 3, 1), (desk, p) -> desk.pencil(4, 5, 2),
+        (desk, p) -> desk.pencil(4, 5, 100), (desk, p) -> desk.pencil(4, 3, 1000 + p), (desk, p) -> desk.pencil(3, 4, 1000 + p),
+        (desk, p) -> desk.pencil(2, 4, 2000 + p), (desk, p) -> desk.pencil(2, 4, 3000 + p), (desk, p) -> desk.pencil(2, 1, 1001),
+        (desk, p) -> desk.pencil(1, 2, 2000 + p - 1), (desk, p) -> desk.member(3, 4, p, 1), (desk, p) -> desk.member(3, 4, p - 1, 1),
+        (desk, p) -> desk.passing(3, 4, p), (desk, p) -> desk.passing(4, 3, p * p), (desk, p) -> desk.only(1),
+        (desk, p) -> desk.only(5), (desk, p) -> desk.freed(p + 1), (desk, p) -> desk.freed(p * p - 1), (desk, p) -> desk.useful(),
+        (desk, p) -> desk.through(0), (desk, p) -> desk.turn(0, 4), (desk, p) -> desk.turn(0, 3), (desk, p) -> desk.twist(4, 2),
+        (desk, p) -> desk.mark(p * p + p, false), (desk, p) -> desk.sum(0, 4, 2, 3, -1));
+
+    private static String ofPrime(int p, boolean five) {
+        int[] marks = five ? new int[] {0, 1, p * p, p + 1, 2 * p + 2} : new int[] {0, 1, 2};
+        StringBuilder text = new StringBuilder(Edges.marks(p, marks));
+        int[][] kinds = Edges.kinds(p);
+        for (int kind = 0; kind < 5; kind++) {
+            text.append(Edges.conic(kind, kinds[kind]));
+        }
+        return text.append("conic 5 1 1 1 0 0 0;").toString();
+    }
+
+    /** Each question, asked first, has the answer that it has behind all the others, of this PRIME and of another one. */
+    private static void whateverWasAskedBefore() {
+        Due.sentence("Promises 15 to 32", "what there is (whatever was asked before, of whichever PRIME)");
+        for (int p : Edges.PRIMES) {
+            for (int k = 0; k < QUESTIONS.size(); k++) {
+                for (int five = 0; five < 2; five++) {
+                    int first = QUESTIONS.get(k).applyAsInt(Edges.desk(ofPrime(p, five == 1)), p);
+                    int other = p == 23 ? 3 : 23;
+                    ConicDesk desk = Edges.desk(ofPrime(other, five == 0));
+                    for (ToIntBiFunction<ConicDesk, Integer> question : QUESTIONS) {
+                        question.applyAsInt(desk, other);
+                    }
+                    Due.holds("text", Due.text(desk, ofPrime(p, five == 1)) > 0);
+                    for (int before = 0; before < 43; before++) {
+                        QUESTIONS.get(before).applyAsInt(desk, p);
+                    }
+                    Due.is("question " + k + " of " + p, QUESTIONS.get(k).applyAsInt(desk, p), first);
+                }
+            }
         }
     }
 }

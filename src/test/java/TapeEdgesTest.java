@@ -205,9 +205,11 @@ public final class TapeEdgesTest {
                 if (!blank) {
                     Due.faulty(before, 1, 0);
                 }
-                String within = word.substring(0, 2) + (char) sign + word.substring(3) + ";";
-                if (sign != word.charAt(2)) {
-                    Due.faulty(within, 1, 0);
+                for (int k = 0; k < end; k++) {
+                    String within = word.substring(0, k) + (char) sign + word.substring(k + 1) + ";";
+                    if (sign != word.charAt(k) && (k > 0 || !blank)) {
+                        Due.faulty(within, 1, 0);
+                    }
                 }
             }
             for (int length = 1; length < end; length++) {
