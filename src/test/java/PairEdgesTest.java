@@ -261,9 +261,8 @@ public final class PairEdgesTest {
     private static void noPencilOfNoConic() {
         Due.sentence("Promise 27", "NONE: there is no PENCIL");
         ConicDesk desk = two(7, xx(-1, 0), xx(0, -1));
-        aPencil("the ends", desk, 0, 5);
-        aPencil("the ends", desk, 5, 0);
         for (int no : Edges.NOT_OF_SIX) {
+            aPencil("the ends", desk, 0, 5);
             noPencil("no such first one", desk, no, 5);
             noPencil("no such other one", desk, 0, no);
         }
