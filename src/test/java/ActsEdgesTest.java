@@ -27,6 +27,7 @@ public final class ActsEdgesTest {
         noSuchConic();
         noSuchNumber();
         noSuchHow();
+        noSuchPrime();
         noSuchPoint();
         valuesBeyond();
         soAlready();
@@ -385,6 +386,23 @@ public final class ActsEdgesTest {
         Due.numbers("left", desk, 0, 1, 2, 3, 4, 5, 6);
         Due.refused("how 0", desk, desk.twist(0, 0), 0, 0);
         Due.refused("how 2", desk, desk.twist(0, 2), 0, 0);
+    }
+
+    private static void noSuchPrime() {
+        Due.sentence(T2, "1 a number that can't be (.. PRIME, POINT, how;");
+        int[] wrong = {-1, 0, 1, 2, 4, 9, 15, 21, 22, 24, 25, 29, 31, -3, -7, -23, LOWEST, LOWEST + 7, HIGHEST, HIGHEST - 7, 256 + 3,
+            (1 << 16) + 3, Edges.UNKNOWN};
+        for (int p : Edges.PRIMES) {
+            ConicDesk desk = Edges.desk(Edges.marks(p, 0, p * p + p));
+            for (int no : wrong) {
+                Due.refused("prime(" + no + ")", desk, desk.prime(no), 1, 0);
+            }
+            Due.is("the PRIME stays", desk.count(0), p);
+            Due.is("MARKED ones stay", desk.count(2), 2);
+            Due.is("count(4)", desk.count(4), 0);
+            Due.refused("another one that can be", desk, desk.prime(p == 23 ? 3 : 23), 0, 0);
+            Due.is("count(2)", desk.count(2), 0);
+        }
     }
 
     private static void noSuchPoint() {

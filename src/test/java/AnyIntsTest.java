@@ -14,7 +14,7 @@ public final class AnyIntsTest {
 
     public static void main(String[] args) {
         AnyIntsTest test = new AnyIntsTest();
-        Due.sentence("What it is", "An object is used for at most 512 calls (with any ints: each is answered, and nothing is thrown)");
+        Due.sentence("What it is", "An object is used for at most 512 calls", "with any ints: each is answered, and nothing is thrown");
         for (int a : INTS) {
             test.withOne(a);
             for (int b : INTS) {

@@ -1,4 +1,8 @@
+import java.io.IOException;
 import java.nio.charset.StandardCharsets;
+import java.nio.file.Files;
+import java.nio.file.Path;
+import java.util.List;
 
 /** What the project's tests share: answers that are due, and tapes told as texts. */
 final class Due {
@@ -13,6 +17,21 @@ final class Due {
     static void sentence(String where, String words) {
         sentences++;
         System.out.println("  " + where + ": " + words);
+    }
+
+    /** Likewise, of one side of what they tell. */
+    static void sentence(String where, String words, String side) {
+        sentence(where, words + " [" + side + "]");
+    }
+
+    /** The document's lines; none, and that is told, where it does not stand beside the tests that came with it. */
+    static List<String> document() throws IOException {
+        Path document = Path.of(System.getProperty("project", "."), "../shared/DOC.md");
+        if (!Files.exists(document)) {
+            System.out.println("  there is no " + document + ": what is told of it is not looked at");
+            return List.of();
+        }
+        return Files.readAllLines(document, StandardCharsets.UTF_8);
     }
 
     static void is(String call, long got, long want) {

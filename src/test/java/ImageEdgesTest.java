@@ -80,7 +80,7 @@ public final class ImageEdgesTest {
     }
 
     private static void hasThePrime() {
-        Due.sentence("Promise 33", "all that is (the PRIME)");
+        Due.sentence("Promise 33", "all that is", "the PRIME");
         for (int p : Edges.PRIMES) {
             ConicDesk desk = new ConicDesk();
             desk.prime(p);
@@ -93,7 +93,7 @@ public final class ImageEdgesTest {
     }
 
     private static void hasWhatIsMarked() {
-        Due.sentence("Promise 33", "all that is (what is MARKED)");
+        Due.sentence("Promise 33", "all that is", "what is MARKED");
         for (int marks = 0; marks <= 8; marks++) {
             ConicDesk desk = new ConicDesk();
             for (int k = 0; k < marks; k++) {
@@ -112,7 +112,7 @@ public final class ImageEdgesTest {
     }
 
     private static void hasTheConics() {
-        Due.sentence("Promise 33", "all that is (the CONICS)");
+        Due.sentence("Promise 33", "all that is", "the CONICS");
         for (int conic = 0; conic < 6; conic++) {
             ConicDesk desk = Edges.desk(Edges.conic(conic, -99, 99, -1, 1, 2, 3));
             desk.image(1);
@@ -222,7 +222,7 @@ public final class ImageEdgesTest {
     }
 
     private static void imageLeavesWhatCanBeUndone() {
-        Due.sentence("Promise 33", "Image k (0 .. 2) is all that is, as it is now");
+        Due.sentence("Promise 33", "Image k (0 .. 2) is all that is .. as it is now");
         ConicDesk desk = new ConicDesk();
         for (int k = 1; k <= 3; k++) {
             Due.is("set", desk.set(0, 1, k), 0);

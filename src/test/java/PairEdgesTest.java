@@ -44,7 +44,7 @@ public final class PairEdgesTest {
     // ---- Promise 27
 
     private static void baseFromNoneToALine() {
-        Due.sentence("Promise 27", "what 0: BASE, how many");
+        Due.sentence("Promise 27", "Of the PENCIL of two, what 0: BASE, how many");
         for (int p : Edges.PRIMES) {
             int no = Edges.residue(p, false);
             Due.is("none", two(p, xx(-no, 0), new int[] {0, 0, 1, 0, 0, 0}).pencil(0, 5, 0), 0);

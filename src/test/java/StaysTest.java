@@ -182,7 +182,7 @@ public final class StaysTest {
     }
 
     private static void refusedActs() {
-        Due.sentence("Terms 2", "REFUSED (all else stays: eight being MARKED, eight ACTS to be UNDONE, two images)");
+        Due.sentence("Terms 2", "REFUSED", "all else stays: eight being MARKED, eight ACTS to be UNDONE, two images");
         refused("prime(9)", StaysTest::full, desk -> desk.prime(9), 1, 0);
         refused("prime(lowest)", StaysTest::full, desk -> desk.prime(LOWEST), 1, 0);
         refused("prime(11)", StaysTest::full, desk -> desk.prime(11), 2, 0);
@@ -212,7 +212,7 @@ public final class StaysTest {
     }
 
     private static void refusedActsOfFewMarks() {
-        Due.sentence("Terms 2", "REFUSED (all else stays: few being MARKED, no ACT to be UNDONE, one image)");
+        Due.sentence("Terms 2", "REFUSED", "all else stays: few being MARKED, no ACT to be UNDONE, one image");
         refused("through of many", StaysTest::few, desk -> desk.through(0), 10, 11);
         refused("twist beyond", StaysTest::few, desk -> desk.twist(5, 2), 4, 0);
         refused("prime(11)", StaysTest::few, desk -> desk.prime(11), 2, 0);
@@ -221,7 +221,7 @@ public final class StaysTest {
     }
 
     private static void refusedActsOfANewDesk() {
-        Due.sentence("Terms 2", "REFUSED (all else stays: as at first)");
+        Due.sentence("Terms 2", "REFUSED", "all else stays: as at first");
         refused("prime(7)", ConicDesk::new, desk -> desk.prime(7), 2, 0);
         refused("set to 0", ConicDesk::new, desk -> desk.set(0, 0, 0), 3, 0);
         refused("set so already", ConicDesk::new, desk -> desk.set(0, 0, 1), 2, 0);
@@ -234,7 +234,11 @@ public final class StaysTest {
     }
 
     private static void callsForNothing() {
-        Due.sentence("Promises 2, 3, 14, 33 and 34", "NONE, and nothing comes; NONE if it has not so many; NONE: none can; false");
+        Due.sentence("Promise 2", "NONE, and nothing comes", "all stays");
+        Due.sentence("Promise 3", "NONE if it has not so many", "all stays");
+        Due.sentence("Promise 14", "NONE: none can", "all stays");
+        Due.sentence("Promise 33", "false for another k", "all stays");
+        Due.sentence("Promise 34", "false if there is none such", "all stays");
         asked("end(-1)", StaysTest::full, desk -> desk.end(-1), NONE);
         asked("end(29)", StaysTest::full, desk -> desk.end(29), NONE);
         asked("end(28)", StaysTest::full, desk -> desk.end(28), 28);
@@ -256,7 +260,7 @@ public final class StaysTest {
     }
 
     private static void questions() {
-        Due.sentence("Promises 5, 13 and 15 to 32", "what there is (asking leaves all as it is)");
+        Due.sentence("The constants", "what there is .. two conics .. families", "asking leaves all as it is");
         asked("fault(0)", StaysTest::full, desk -> desk.fault(0), 2);
         asked("fault(2)", StaysTest::full, desk -> desk.fault(2), NONE);
         asked("why(0)", StaysTest::full, desk -> desk.why(0), 5);
@@ -343,7 +347,7 @@ public final class StaysTest {
 
     /** Each question, asked first, has the answer that it has behind all the others, of this PRIME and of another one. */
     private static void whateverWasAskedBefore() {
-        Due.sentence("Promises 15 to 32", "what there is (whatever was asked before, of whichever PRIME)");
+        Due.sentence("The constants", "what there is .. two conics .. families", "whatever was asked before, of whichever PRIME");
         for (int p : Edges.PRIMES) {
             for (int k = 0; k < QUESTIONS.size(); k++) {
                 for (int five = 0; five < 2; five++) {

@@ -85,7 +85,7 @@ public final class TapeEdgesTest {
     }
 
     private static void bytesOfAllNumbers() {
-        Due.sentence("Promise 2", "int feed(int a, int b, int c, int d, int e): how many it has");
+        Due.sentence("Promise 2", "The tape: .. how many it has.");
         int[] numbers = {LOWEST, HIGHEST, 0, -1, 1, LOWEST + 1, HIGHEST - 1, Edges.UNKNOWN};
         for (int number : numbers) {
             ConicDesk desk = new ConicDesk();
@@ -302,7 +302,7 @@ public final class TapeEdgesTest {
     }
 
     private static void eachLineWhole() {
-        Due.sentence(T3, "'prime' N | 'conic' N F F F F F F | 'point' N | 'pair' N F F F F F F");
+        Due.sentence(T3, "'prime' N | 'conic' N F F F F F F .. | 'point' N .. | 'pair' N F F F F F F");
         String[] whole = {"prime", " 3", ";"};
         cutEverywhere(whole, false);
         cutEverywhere(new String[] {"point", " 3", ";"}, false);
